@@ -50,7 +50,7 @@ public final class SteppedSamples {
     private final BlockText buffer = new BlockText();
     private final Coder coder = new Coder();
     private final Decoder decoder = new Decoder();
-    private final Decoder decoderBefore = new Decoder();
+    private final Decoder decoderAfter = new Decoder();
     private final Walk walk = new Walk();
 
     public SteppedSamples() {
@@ -62,7 +62,7 @@ public final class SteppedSamples {
         if (many < 1 || many > MOST_SAMPLES) {
             throw new IllegalArgumentException("a wave has 1 to 64 samples");
         }
-        history.save(now);
+        beginChange();
         int had = now.many;
         now.becomeSilence(many);
         return had;
@@ -75,7 +75,7 @@ public final class SteppedSamples {
         if (!isValue(value)) {
             throw new IllegalArgumentException("a sample is -2048 to 2047");
         }
-        history.save(now);
+        beginChange();
         int had = now.values[sample];
         now.values[sample] = value;
         now.forgetBlocks();
@@ -92,7 +92,7 @@ public final class SteppedSamples {
         if (period < 1 || period > LONGEST_PERIOD) {
             throw new IllegalArgumentException("a period is 1 to 64");
         }
-        history.save(now);
+        beginChange();
         int clipped = 0;
         for (int k = 0; k < now.many; k++) {
             int sum = now.values[k] + shape(kind, height, period, k % period);
@@ -109,8 +109,8 @@ public final class SteppedSamples {
         if (!now.isCoded()) {
             throw new IllegalStateException("the wave is not coded");
         }
-        history.save(now);
         decoder.decode(now);
+        beginChange();
         int others = now.many - decoder.justAsTheyAre(now);
         copyRow(decoder.made, now.values);
         now.forgetBlocks();
@@ -124,7 +124,7 @@ public final class SteppedSamples {
         if (value < leastOfSetting(setting) || value > mostOfSetting(setting)) {
             throw new IllegalArgumentException("the value is out of the setting's range");
         }
-        history.save(now);
+        beginChange();
         int had = now.settings[setting];
         now.settings[setting] = value;
         if (setting != FILLING) {
@@ -136,21 +136,21 @@ public final class SteppedSamples {
     // ---- codes
 
     public int code() {
-        history.save(now);
+        beginChange();
         coder.codeWave(now);
         return now.blocks;
     }
 
     public int lose(int block) throws IndexOutOfBoundsException {
         refuseUnlessBlock(block);
-        history.save(now);
+        beginChange();
         now.lost[block] = !now.lost[block];
         return now.lostBlocks();
     }
 
     public int spoil(int sample, int bit) throws IndexOutOfBoundsException, IllegalArgumentException {
         refuseUnlessCodeBit(sample, bit);
-        history.save(now);
+        beginChange();
         now.turnOver(sample, bit);
         now.turned++;
         return now.codes[sample];
@@ -184,12 +184,13 @@ public final class SteppedSamples {
         if (!buffer.tellsBlock() || buffer.codeCount != now.codesOf(block)) {
             throw new IllegalArgumentException("the buffer does not tell such a block");
         }
-        history.save(now);
-        decoderBefore.decode(now);
-        now.putBlock(block, buffer);
         decoder.decode(now);
+        beginChange();
+        now.putBlock(block, buffer);
         buffer.length = 0;
-        return decoder.othersThan(decoderBefore, now.many);
+        decoderAfter.upToDate = false;
+        decoderAfter.decode(now);
+        return decoderAfter.othersThan(decoder, now.many);
     }
 
     public int write(int block) throws IndexOutOfBoundsException {
@@ -210,7 +211,7 @@ public final class SteppedSamples {
         if (!kept[slot]) {
             throw new IllegalStateException("there is no snapshot in the slot");
         }
-        history.save(now);
+        beginChange();
         now.copyFrom(slots[slot]);
         return now.many;
     }
@@ -220,6 +221,7 @@ public final class SteppedSamples {
             throw new IllegalStateException("there is no saved state");
         }
         history.restore(now);
+        decoder.upToDate = false;
         return history.many;
     }
 
@@ -353,11 +355,12 @@ public final class SteppedSamples {
 
     public int ifSpoiled(int sample, int bit) throws IndexOutOfBoundsException, IllegalArgumentException {
         refuseUnlessCodeBit(sample, bit);
-        decoderBefore.decode(now);
-        now.turnOver(sample, bit);
         decoder.decode(now);
         now.turnOver(sample, bit);
-        return decoder.othersThan(decoderBefore, now.many);
+        decoderAfter.upToDate = false;
+        decoderAfter.decode(now);
+        now.turnOver(sample, bit);
+        return decoderAfter.othersThan(decoder, now.many);
     }
 
     public double meanSquare() {
@@ -402,6 +405,12 @@ public final class SteppedSamples {
             hash = mix(hash, buffer.signs[k]);
         }
         return hash;
+    }
+
+    /** What the decoder has made stays to be looked at, but it makes all anew when it is asked again. */
+    private void beginChange() {
+        history.save(now);
+        decoder.upToDate = false;
     }
 
     // ---- what the calls refuse
@@ -843,8 +852,13 @@ public final class SteppedSamples {
         /** The numbers of the steps behind the samples; NONE in a lost block. */
         final int[] numbers = new int[MOST_SAMPLES];
         private final Walk walk = new Walk();
+        /** Kept as looks come in rows: a digest alone asks some hundreds of times for the same. */
+        boolean upToDate;
 
         void decode(State state) {
+            if (upToDate) {
+                return;
+            }
             for (int block = 0; block < state.blocks; block++) {
                 if (state.lost[block]) {
                     fillBlock(state, block);
@@ -852,6 +866,7 @@ public final class SteppedSamples {
                     decodeBlock(state, block);
                 }
             }
+            upToDate = true;
         }
 
         private void decodeBlock(State state, int block) {

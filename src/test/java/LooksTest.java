@@ -97,6 +97,9 @@ public final class LooksTest {
         counts("spoiled", x, 4, 1, 2, 0, 111 * 111 + 4, 111 * 111 + 4, 111, 2, 44, 1, 1, 6);
         x.undo();
         counts("spoiled and undone", x, 4, 1, 2, 0, 7925, 7925, 89, 2, 44, 1, 0, 5);
+        Checks.type(x, "1,0:7");
+        x.load(0);
+        counts("loaded", x, 4, 1, 2, 0, 1 + 88 * 88 + 4, 1 + 88 * 88 + 4, 88, 1, 44, 1, 0, 6);
         x.wave(3);
         counts("not coded", x, 3, 0, 0, 0, 0, 0, 0, 0, 0, 1, 0, 6);
         x.code();

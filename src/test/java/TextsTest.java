@@ -74,7 +74,7 @@ public final class TextsTest {
         SteppedSamples x = Checks.small();
         x.lose(0);
         Checks.type(x, "-5,48:f");
-        int slotBlind = x.count(10);
+        int turned = x.count(10);
         CHECK.due("load(0)", x.load(0), 2);
         CHECK.samples("loaded", x, 1, 9995, 7952, 10050, 10062);
         CHECK.due("first of the header", x.blockOf(0, 1), 9995);
@@ -85,7 +85,7 @@ public final class TextsTest {
         CHECK.due("guess of the coder stays", x.sampleOf(1, 2), 10011);
         CHECK.due("start of block 1 stays", x.blockOf(1, 2), 8);
         CHECK.due("codings stay", x.count(9), 1);
-        CHECK.due("turned bits stay", x.count(10), slotBlind);
+        CHECK.due("turned bits stay", x.count(10), turned);
         CHECK.due("the buffer is cleared", x.clearBuffer(), 0);
         x.lose(1);
         Checks.type(x, "7,0:0");
@@ -94,6 +94,8 @@ public final class TextsTest {
         CHECK.due("load(0) that changes one", x.load(0), 3);
         Checks.type(x, "50,8:2");
         CHECK.undoable("load(1)", x, () -> x.load(1));
+        Checks.type(x, "51,9:1");
+        CHECK.undoable("load(1) of another block", x, () -> x.load(1));
         SteppedSamples one = Checks.waveOf(3, 4, 5);
         one.set(0, 2);
         one.code();

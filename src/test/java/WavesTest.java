@@ -37,6 +37,7 @@ public final class WavesTest {
     private static void promise2() {
         SteppedSamples x = new SteppedSamples();
         x.set(0, 3);
+        x.sample(0, 78);
         x.sample(5, 77);
         x.code();
         CHECK.due("wave(64)", x.wave(64), 32);

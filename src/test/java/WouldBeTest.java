@@ -111,6 +111,9 @@ public final class WouldBeTest {
             }
         }
         CHECK.due("bestStep of one sample", x.bestStep(31, 1), 0);
+        CHECK.due("bestStep of a far one", Checks.waveOf(0, 2047).bestStep(0, 2), 48);
+        // The steps 0 and 2 make just 10 of the 10; the step 1 makes 11.
+        CHECK.due("bestStep of several", Checks.waveOf(50, 60).bestStep(0, 2), 0);
         int[][] wrongOnes = {{0, 0}, {0, -1}, {-1, 1}, {32, 1}, {0, 33}, {31, 2}, {1, Integer.MAX_VALUE},
             {Integer.MAX_VALUE, 1}, {Integer.MIN_VALUE, Integer.MIN_VALUE}};
         for (int[] one : wrongOnes) {
