@@ -11,7 +11,10 @@ import java.util.TreeSet;
 import java.util.regex.Matcher;
 import java.util.regex.Pattern;
 
-/** The face as the document lists it, and those rules of the language that can be seen from outside the methods. */
+/**
+ * The face as the document lists it, those rules of the language that can be seen from outside the methods, and that
+ * each section of the document is held by a test.
+ */
 public final class FaceTest {
     private static final Checks CHECK = new Checks("FaceTest");
     private static final String ARGUMENT = "IllegalArgumentException";
@@ -51,6 +54,7 @@ public final class FaceTest {
         face();
         members();
         source();
+        document();
         CHECK.end();
     }
 
@@ -85,16 +89,17 @@ public final class FaceTest {
         for (Method method : SteppedSamples.class.getDeclaredMethods()) {
             boolean shown = Modifier.isPublic(method.getModifiers());
             boolean hidden = Modifier.isPrivate(method.getModifiers()) && !faceNames.contains(method.getName());
-            CHECK.due("method " + method.getName(), shown || hidden ? 1 : 0, 1);
+            CHECK.holds("method " + method.getName(), shown || hidden);
+            CHECK.holds("at most seven parameters of " + method.getName(), method.getParameterCount() <= 7);
         }
         fields(SteppedSamples.class);
         Class<?>[] inside = SteppedSamples.class.getDeclaredClasses();
-        CHECK.due("classes are at most twelve", inside.length < 12 ? 1 : 0, 1);
+        CHECK.holds("classes are at most twelve", inside.length < 12);
         for (Class<?> one : inside) {
             int modifiers = one.getModifiers();
             boolean right = Modifier.isStatic(modifiers) && !Modifier.isPublic(modifiers)
                 && !Modifier.isProtected(modifiers);
-            CHECK.due("class " + one.getSimpleName(), right ? 1 : 0, 1);
+            CHECK.holds("class " + one.getSimpleName(), right);
             fields(one);
         }
     }
@@ -103,9 +108,9 @@ public final class FaceTest {
         for (Field field : one.getDeclaredFields()) {
             int modifiers = field.getModifiers();
             boolean still = !Modifier.isStatic(modifiers) || Modifier.isFinal(modifiers);
-            CHECK.due("field " + field.getName() + " is no static state", still ? 1 : 0, 1);
+            CHECK.holds("field " + field.getName() + " is no static state", still);
             boolean hidden = Modifier.isPrivate(modifiers) || field.getName().equals("NONE");
-            CHECK.due("field " + field.getName() + " is hidden", hidden || one != SteppedSamples.class ? 1 : 0, 1);
+            CHECK.holds("field " + field.getName() + " is hidden", hidden || one != SteppedSamples.class);
         }
     }
 
@@ -113,22 +118,37 @@ public final class FaceTest {
         Path path = Path.of("src/main/java/SteppedSamples.java");
         String text = Files.readString(path, StandardCharsets.US_ASCII);
         String bare = text.replaceAll("(?s)/\\*.*?\\*/", "").replaceAll("//[^\n]*", "").replaceAll("\"[^\"\n]*\"", "\"\"");
-        String[] banned = {"\\bimport\\b", "\\bpackage\\b", "\\bcatch\\b", "\\bfinally\\b", "\\bsynchronized\\b",
-            "\\bassert\\b", "->", "::", "\\bDouble\\b", "\\bFloat\\b", "\\bThrowable\\b", "\\bvar\\b", "\\binstanceof\\b",
-            "Exact\\b", "\\bprotected\\b", "\\bRandom\\b", "nanoTime", "currentTimeMillis", "\"\" \\+", "\\+ \"\""};
+        String[] banned = {"\\bimport (?!java\\.util\\.(ArrayList|List|Arrays|Iterator|NoSuchElementException);)",
+            "\\bpackage\\b", "\\bcatch\\b", "\\bfinally\\b", "\\bsynchronized\\b", "\\bassert\\b", "->", "::", "\\bDouble\\b",
+            "\\bFloat\\b", "\\bThrowable\\b", "\\bvar\\b", "Exact\\b", "\\bprotected\\b", "\\bRandom\\b", "nanoTime",
+            "currentTimeMillis", "\"\" \\+", "\\+ \"\""};
         for (String one : banned) {
             Matcher matcher = Pattern.compile(one).matcher(bare);
-            CHECK.due("the source holds " + one, matcher.find() ? 1 : 0, 0);
+            CHECK.holds("the source is without " + one, !matcher.find());
         }
-        madeObjects(bare);
     }
 
-    /** Objects and arrays are made with the class alone, never by a call, but for exceptions: a run has one room. */
-    private static void madeObjects(String bare) {
-        for (String line : bare.split("\n")) {
-            boolean makes = line.contains("new ") && !line.contains("throw new ");
-            boolean inField = line.contains("final ") || line.matches("\\s*(new State\\(\\)(, )?)+");
-            CHECK.due("made by a call: " + line, makes && !inField ? 1 : 0, 0);
+    /** The document's own list of the face, and that each of its sections has a test which names its words. */
+    private static void document() {
+        Document document = Document.read();
+        if (!document.isThere()) {
+            return;
         }
+        Set<String> face = new TreeSet<>();
+        Pattern call = Pattern.compile("public (\\w+) (\\w+)\\((.*)\\)(?: throws (.*))?;");
+        for (String line : document.face()) {
+            Matcher matcher = call.matcher(line.trim());
+            if (matcher.matches()) {
+                String types = matcher.group(3).replaceAll(" \\w+(,|$)", "$1").replace(" ", "");
+                String thrown = matcher.group(4) == null ? "" : matcher.group(4).replace(" ", "");
+                face.add(matcher.group(1) + " " + matcher.group(2) + "(" + types + ") " + thrown);
+            }
+        }
+        CHECK.dueText("the face in the document", face.toString(), new TreeSet<>(Arrays.asList(FACE)).toString());
+        Set<String> held = new TreeSet<>();
+        for (String test : Document.TESTS) {
+            held.addAll(Document.heldBy(test));
+        }
+        CHECK.dueText("the sections that tests hold", held.toString(), new TreeSet<>(document.sections()).toString());
     }
 }

@@ -7,6 +7,9 @@ public final class ModelTest {
         2048, Integer.MIN_VALUE, Integer.MAX_VALUE};
     private static final String SIGNS = "-0123456789,:abcdefg";
 
+    /** The longest text that is typed here, the buffer cleared and looked at, and the call behind it. */
+    private static final int CALLS_OF_A_TEXT = 27;
+
     private long seed;
     private final SteppedSamples x = new SteppedSamples();
     private final PlainModel model = new PlainModel();
@@ -14,21 +17,40 @@ public final class ModelTest {
     /** The call that is made of both; its arguments are chosen once. */
     private int call;
     private final int[] arguments = new int[4];
+    /** Of the class's object alone. */
+    private int calls;
 
     private ModelTest(int run) {
         seed = 77777L * run + 5;
     }
 
     public static void main(String[] args) {
+        CHECK.of("What it is");
+        CHECK.says("Samples squeezed to four bits by steps that grow and shrink with the wave: waves of samples, a table "
+            + "of steps, guesses that are clipped, codes of a sign and three bits, blocks with headers, a coder that "
+            + "walks as the decoder will, the best start of a block, lost blocks and how they are filled, codes that are "
+            + "spoiled and how far that spreads, blocks told as texts with errors by place, errors and noise told in two "
+            + "ways, snapshots and undo.");
         for (int run = 0; run < RUNS; run++) {
+            new ModelTest(run).go("run " + run, CALLS / 2);
+        }
+        CHECK.says("An object is used for at most 512 calls after it has been made; what later calls answer is free.");
+        for (int run = RUNS; run < 2 * RUNS; run++) {
             ModelTest test = new ModelTest(run);
-            for (int calls = 0; calls < CALLS - 1; calls++) {
-                test.choose();
-                test.compare("run " + run + ", call " + calls);
-            }
-            CHECK.due("digest of run " + run, test.x.digest(), test.model.digest());
+            test.go("run " + run, CALLS);
+            CHECK.due("calls of run " + run, test.calls, CALLS);
         }
         CHECK.end();
+    }
+
+    /** The last call is digest(), which looks at all. */
+    private void go(String run, int most) {
+        while (calls < most - 1) {
+            choose();
+            compare(run + ", call " + calls, most);
+        }
+        calls++;
+        CHECK.due("digest of " + run, x.digest(), model.digest());
     }
 
     private int pick(int many) {
@@ -81,10 +103,11 @@ public final class ModelTest {
         arguments[3] = d;
     }
 
-    private void compare(String where) {
-        if (call == 10 && pick(4) != 0) {
+    private void compare(String where, int most) {
+        if (call == 10 && pick(4) != 0 && calls + CALLS_OF_A_TEXT < most) {
             typeBlock(where, arguments[0]);
         }
+        calls++;
         askModel = false;
         String got = answer();
         askModel = true;
@@ -100,7 +123,8 @@ public final class ModelTest {
         for (int k = pick(20) == 0 ? 1 : 0; k < codes; k++) {
             text.append(Integer.toHexString(pick(16)));
         }
-        Checks.type(x, text.toString());
+        Made.type(x, text.toString());
+        calls += 2 + text.length();
         model.clearBuffer();
         for (char sign : text.toString().toCharArray()) {
             model.append(sign);
