@@ -341,13 +341,23 @@ public final class WouldBeTest {
 
     // ---- promise 28
 
-    private static SteppedSamples loud() {
+    /** So loud that a float does not hold all digits of the sum of the squares. */
+    private static SteppedSamples loud(int period) {
         SteppedSamples x = new SteppedSamples();
         x.wave(64);
-        x.add(0, 2047, 9);
+        x.add(0, 2047, period);
         x.add(1, 33, 7);
         x.code();
         return x;
+    }
+
+    private static long squaresOf(SteppedSamples x) {
+        long squares = 0;
+        for (int k = 0; k < x.count(0); k++) {
+            long value = x.sampleOf(k, 0) - 10000;
+            squares += value * value;
+        }
+        return squares;
     }
 
     private static void loudness() {
@@ -360,12 +370,16 @@ public final class WouldBeTest {
         CHECK.dueDouble("loudness(), lost", smallLost().loudness(), 16100f / (7921 + 39 * 39 + 49 * 49));
         CHECK.dueDouble("loudness(), the greatest error", farthest().loudness(),
             (float) (64 * 2047 * 2047) / (float) (64 * 4095 * 4095));
-        long squares = 0;
-        for (int k = 0; k < 64; k++) {
-            long value = loud().sampleOf(k, 0) - 10000;
-            squares += value * value;
+        int others = 0;
+        for (int period = 2; period <= 33; period++) {
+            int which = period;
+            long squares = squaresOf(loud(which));
+            int error = loud(which).count(4);
+            float want = (float) squares / (float) error;
+            others += want == (float) ((double) squares / (double) error) ? 0 : 1;
+            CHECK.dueDouble("loudness(), loud by " + period, loud(which).loudness(), want);
         }
-        CHECK.dueDouble("loudness(), loud", loud().loudness(), (float) squares / (float) loud().count(4));
+        CHECK.holds("some of them are others than without floats", others > 0);
         CHECK.dueDouble("loudness(), of 0 with noise", oneOff().loudness(), 0.0f);
         CHECK.says("0.0f if the wave is not coded;");
         SteppedSamples x = Made.small();
@@ -508,7 +522,7 @@ public final class WouldBeTest {
         digestIs("a far one", () -> Made.waveOf(0, 2047), 0, 0, "");
         CHECK.says("for each sample that has a code ifSpoiled with 3;");
         digestIs("a spoiled code", Made::full, 1, 1, "12,3:a");
-        digestIs("loud", WouldBeTest::loud, 0, 0, "");
+        digestIs("loud", () -> loud(9), 0, 0, "");
     }
 
     private static void digestOfEnd() {
